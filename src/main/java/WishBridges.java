@@ -417,13 +417,13 @@ public final class WishBridges {
             return bad;
         }
         rows.prepare(bridge, set, 1);
-        if (rows.countOrders() == 0) {
+        if (rows.fewestWishers(0) > 0) {
             return NOT;
         }
         if (i >= rows.size) {
             return NONE;
         }
-        rows.findOrder();
+        rows.findRow(0);
         return rows.row[i];
     }
 
@@ -433,7 +433,7 @@ public final class WishBridges {
             return bad;
         }
         rows.prepare(bridge, set, 2);
-        return rows.fewestWishers();
+        return rows.fewestWishers(rows.size);
     }
 
     public int wisherAt(int bridge, int set, int i) {
@@ -445,7 +445,7 @@ public final class WishBridges {
         if (i >= rows.size) {
             return NONE;
         }
-        rows.findWisherRow();
+        rows.findRow(rows.fewestWishers(rows.size));
         return rows.row[i] + ((rows.hiredAhead >> i & 1) == 1 ? 100 : 0);
     }
 
@@ -778,6 +778,33 @@ public final class WishBridges {
         private int signCount;
 
         int readInto(Told target, byte[] tape, int length) {
+            begin(target, tape, length);
+            for (int n = 0; n <= Tokens.MOST && fault == 0 && kind() != Tokens.END; n++) {
+                switch (kind()) {
+                    case Tokens.BANK: readBank(); break;
+                    case Tokens.PATH: readPath(); break;
+                    case Tokens.BRIDGE: readBridge(); break;
+                    case Tokens.MAN: readMan(); break;
+                    case Tokens.WISHES: readNamedLaw(Tokens.WISHES, Tokens.MAN, told.wishes); break;
+                    case Tokens.TOLL: readNamedLaw(Tokens.TOLL, Tokens.BRIDGE, told.tolls); break;
+                    case Tokens.GOES: told.goes = takePlainLaw(Tokens.GOES); break;
+                    case Tokens.GAIN: told.gain = takePlainLaw(Tokens.GAIN); break;
+                    case Tokens.FANCY: told.fancy = takePlainLaw(Tokens.FANCY); break;
+                    case Tokens.DAWN: told.dawn = takeSetting(Tokens.DAWN, 23); break;
+                    case Tokens.PILGRIMS: told.pilgrims = takeSetting(Tokens.PILGRIMS, 100); break;
+                    case Tokens.HIRE: told.hireCoins = takeSetting(Tokens.HIRE, 99); break;
+                    case Tokens.SEED: told.seed = takeSetting(Tokens.SEED, 9999); break;
+                    default: fail(SYNTAX);
+                }
+            }
+            if (fault == 0) {
+                fault = unfit;
+                place = unfitPlace;
+            }
+            return fault;
+        }
+
+        private void begin(Told target, byte[] tape, int length) {
             tokens.cut(tape, length);
             told = target;
             told.clear();
@@ -786,14 +813,6 @@ public final class WishBridges {
             fault = 0;
             unfit = 0;
             nameCount = 0;
-            for (int n = 0; n <= Tokens.MOST && fault == 0 && kind() != Tokens.END; n++) {
-                readTell();
-            }
-            if (fault == 0) {
-                fault = unfit;
-                place = unfitPlace;
-            }
-            return fault;
         }
 
         private int kind() {
@@ -818,12 +837,11 @@ public final class WishBridges {
             if (fault != 0) {
                 return;
             }
-            if (kind() != kind) {
-                fail(SYNTAX);
-            } else if (next >= Tokens.MOST) {
-                fail(ROOM);
-            } else {
+            boolean fits = kind() == kind;
+            if (fits && next < Tokens.MOST) {
                 next++;
+            } else {
+                fail(fits ? ROOM : SYNTAX);
             }
         }
 
@@ -894,25 +912,6 @@ public final class WishBridges {
         private int takePlainLaw(int word) {
             take(word);
             return takeLaw();
-        }
-
-        private void readTell() {
-            switch (kind()) {
-                case Tokens.BANK: readBank(); break;
-                case Tokens.PATH: readPath(); break;
-                case Tokens.BRIDGE: readBridge(); break;
-                case Tokens.MAN: readMan(); break;
-                case Tokens.WISHES: readNamedLaw(Tokens.WISHES, Tokens.MAN, told.wishes); break;
-                case Tokens.TOLL: readNamedLaw(Tokens.TOLL, Tokens.BRIDGE, told.tolls); break;
-                case Tokens.GOES: told.goes = takePlainLaw(Tokens.GOES); break;
-                case Tokens.GAIN: told.gain = takePlainLaw(Tokens.GAIN); break;
-                case Tokens.FANCY: told.fancy = takePlainLaw(Tokens.FANCY); break;
-                case Tokens.DAWN: told.dawn = takeSetting(Tokens.DAWN, 23); break;
-                case Tokens.PILGRIMS: told.pilgrims = takeSetting(Tokens.PILGRIMS, 100); break;
-                case Tokens.HIRE: told.hireCoins = takeSetting(Tokens.HIRE, 99); break;
-                case Tokens.SEED: told.seed = takeSetting(Tokens.SEED, 9999); break;
-                default: fail(SYNTAX);
-            }
         }
 
         private void readBank() {
@@ -1679,13 +1678,15 @@ public final class WishBridges {
         // Hours within a ROW: a crossing and a wisher for each MAN.
         static final int STEPS = 2 * MOST_MEN;
         static final int HIRES = MOST_MEN + 1;
-        static final int NEVER = 15;
+        // Spots with nobody ON the BRIDGE, as bits.
+        static final int LANDED = 0x1555;
 
         private final Going going;
         private final int[] wishes = new int[MOST_MEN * LASTS * STEPS];
         private final int[] orderCounts = new int[SETS * SPOTS];
-        // By who crossed and how many were hired, each of whom took an HOUR: four bits a spot.
-        private final long[] fewest = new long[SETS * HIRES];
+        // By who crossed and how many were hired, each of whom took an HOUR: spots as bits.
+        private final int[] reached = new int[SETS * HIRES];
+        private final int[] hopeful = new int[SETS * HIRES];
         private final int[] leaving = new int[MOST_BANKS];
         private final int[] coming = new int[MOST_BANKS];
         private final int[] part = new int[MOST_BANKS];
@@ -1694,9 +1695,6 @@ public final class WishBridges {
         int set;
         int size;
         int startLast;
-        private int firstSpot;
-        private int spotStep;
-        private int spotEnd;
 
         Rows(Going going) {
             this.going = going;
@@ -1707,10 +1705,6 @@ public final class WishBridges {
             set = men;
             size = Integer.bitCount(men);
             startLast = going.last[bridge];
-            // With LAST from the start on nobody is ever ON the BRIDGE.
-            firstSpot = startLast < 0 ? 0 : 2;
-            spotStep = startLast < 0 ? 1 : 2;
-            spotEnd = 2 * (going.told.banks + 1);
             int firstLast = startLast < 0 ? -1 : 0;
             int steps = Math.min(STEPS, size * hoursEach);
             for (int man = 0; man < MOST_MEN; man++) {
@@ -1766,110 +1760,124 @@ public final class WishBridges {
             return spotOf(wished < 0 ? last : wished, last < 0 ? 1 : 0);
         }
 
-        /** By how many ROWS all come HOME; larger sets first, as each is gone on from by these. */
+        /** By how many ROWS all come HOME; smaller sets first, as larger ones are come to from these. */
         int countOrders() {
-            for (int crossed = set; crossed >= 0; crossed--) {
-                for (int spot = firstSpot; spot < spotEnd && isSubset(crossed); spot += spotStep) {
-                    orderCounts[crossed * SPOTS + spot] = ordersFrom(crossed, spot);
+            Arrays.fill(orderCounts, 0);
+            orderCounts[spotOf(startLast, 0)] = 1;
+            for (int crossed = 0; crossed < set; crossed++) {
+                for (int spot = 0; spot < SPOTS && isSubset(crossed); spot++) {
+                    if (orderCounts[crossed * SPOTS + spot] > 0) {
+                        passOrdersOn(crossed, spot);
+                    }
                 }
-            }
-            return orderCounts[spotOf(startLast, 0)];
-        }
-
-        private int ordersFrom(int crossed, int spot) {
-            if (crossed == set) {
-                return spot % 2 == 0 ? 1 : 0;
             }
             int sum = 0;
-            for (int man = 0; man < MOST_MEN; man++) {
-                if (isLeft(man, crossed)) {
-                    sum += ordersBy(crossed, spot, man);
-                }
+            for (int spot = 0; spot < SPOTS; spot += 2) {
+                sum += orderCounts[set * SPOTS + spot];
             }
             return sum;
         }
 
-        private int ordersBy(int crossed, int spot, int man) {
-            int after = spotAfter(crossed, spot, man, Integer.bitCount(crossed));
-            return after < 0 ? 0 : orderCounts[(crossed | 1 << man) * SPOTS + after];
-        }
-
-        /** The first ROW by which all come HOME, behind countOrders() that found some. */
-        void findOrder() {
-            int crossed = 0;
-            int spot = spotOf(startLast, 0);
-            for (int place = 0; place < size; place++) {
-                int man = firstToCross(crossed, spot);
-                if (man < 0) {
-                    return;
-                }
-                row[place] = man;
-                spot = spotAfter(crossed, spot, man, place);
-                crossed |= 1 << man;
-            }
-        }
-
-        private int firstToCross(int crossed, int spot) {
+        private void passOrdersOn(int crossed, int spot) {
             for (int man = 0; man < MOST_MEN; man++) {
-                if (isLeft(man, crossed) && ordersBy(crossed, spot, man) > 0) {
-                    return man;
+                int after = isLeft(man, crossed) ? spotAfter(crossed, spot, man, Integer.bitCount(crossed)) : -1;
+                if (after >= 0) {
+                    orderCounts[(crossed | 1 << man) * SPOTS + after] += orderCounts[crossed * SPOTS + spot];
                 }
             }
-            return -1;
         }
 
-        private int fewestAt(int crossed, int spot, int hires) {
-            return (int) (fewest[crossed * HIRES + hires] >>> 4 * spot) & 15;
-        }
-
-        /** The fewest wishers by whom all come HOME; larger sets first, likewise. */
-        int fewestWishers() {
-            for (int crossed = set; crossed >= 0; crossed--) {
-                int most = isSubset(crossed) ? Integer.bitCount(crossed) : -1;
-                for (int hires = 0; hires <= most; hires++) {
-                    long all = 0;
-                    for (int spot = firstSpot; spot < spotEnd; spot += spotStep) {
-                        all |= (long) fewestFrom(crossed, spot, hires) << 4 * spot;
+        /** The fewest wishers by whom all come HOME, or 1 more than most if that many are not enough. */
+        int fewestWishers(int most) {
+            Arrays.fill(reached, 0);
+            reached[0] = 1 << spotOf(startLast, 0);
+            for (int hires = 0; hires <= most; hires++) {
+                for (int crossed = 0; crossed < set; crossed++) {
+                    for (int spot = 0; spot < SPOTS && isSubset(crossed); spot++) {
+                        if ((reached[crossed * HIRES + hires] >> spot & 1) == 1) {
+                            spread(crossed, spot, hires, most);
+                        }
                     }
-                    fewest[crossed * HIRES + hires] = all;
+                }
+                if ((reached[set * HIRES + hires] & LANDED) != 0) {
+                    return hires;
                 }
             }
-            return fewestAt(0, spotOf(startLast, 0), 0);
+            return most + 1;
         }
 
-        private int fewestFrom(int crossed, int spot, int hires) {
-            if (crossed == set) {
-                return spot % 2 == 0 ? 0 : NEVER;
-            }
-            int least = NEVER;
+        private void spread(int crossed, int spot, int hires, int most) {
             for (int man = 0; man < MOST_MEN; man++) {
-                if (isLeft(man, crossed)) {
-                    least = Math.min(least, fewestBy(crossed, spot, hires, man));
+                if (!isLeft(man, crossed)) {
+                    continue;
+                }
+                int cell = (crossed | 1 << man) * HIRES + hires;
+                int free = spotFree(crossed, spot, hires, man);
+                if (free >= 0) {
+                    reached[cell] |= 1 << free;
+                }
+                int paid = hires < most ? spotPaid(crossed, spot, hires, man) : -1;
+                if (paid >= 0) {
+                    reached[cell + 1] |= 1 << paid;
                 }
             }
-            return least;
         }
 
-        private int fewestBy(int crossed, int spot, int hires, int man) {
-            int with = crossed | 1 << man;
-            int step = Integer.bitCount(crossed) + hires;
-            int free = spotAfter(crossed, spot, man, step);
-            int least = free < 0 ? NEVER : fewestAt(with, free, hires);
-            int paid = spotAfter(crossed, spotOf(homeOf(man), spot % 2), man, step + 1);
-            return paid < 0 ? least : Math.min(least, 1 + fewestAt(with, paid, hires + 1));
+        private int spotFree(int crossed, int spot, int hires, int man) {
+            return spotAfter(crossed, spot, man, Integer.bitCount(crossed) + hires);
         }
 
-        /** The first ROW by numbers with the fewest wishers; of one ROW, the first place goes without if it can. */
-        void findWisherRow() {
-            int least = fewestWishers();
+        private int spotPaid(int crossed, int spot, int hires, int man) {
+            int wished = spotOf(homeOf(man), spot % 2);
+            return spotAfter(crossed, wished, man, Integer.bitCount(crossed) + hires + 1);
+        }
+
+        /** Of what was reached: from where so many in all bring everybody HOME. */
+        private void findHopeful(int least) {
+            for (int crossed = set; crossed >= 0; crossed--) {
+                for (int hires = least; hires >= 0 && isSubset(crossed); hires--) {
+                    int bits = 0;
+                    for (int spot = 0; spot < SPOTS; spot++) {
+                        boolean here = (reached[crossed * HIRES + hires] >> spot & 1) == 1;
+                        bits |= here && isHopeful(crossed, spot, hires, least) ? 1 << spot : 0;
+                    }
+                    hopeful[crossed * HIRES + hires] = bits;
+                }
+            }
+        }
+
+        private boolean isHopeful(int crossed, int spot, int hires, int least) {
+            if (crossed == set) {
+                return hires == least && spot % 2 == 0;
+            }
+            for (int man = 0; man < MOST_MEN; man++) {
+                if (!isLeft(man, crossed)) {
+                    continue;
+                }
+                int cell = (crossed | 1 << man) * HIRES + hires;
+                int free = spotFree(crossed, spot, hires, man);
+                if (free >= 0 && (hopeful[cell] >> free & 1) == 1) {
+                    return true;
+                }
+                int paid = hires < least ? spotPaid(crossed, spot, hires, man) : -1;
+                if (paid >= 0 && (hopeful[cell + 1] >> paid & 1) == 1) {
+                    return true;
+                }
+            }
+            return false;
+        }
+
+        /**
+         * The first ROW by numbers with the fewest wishers, behind fewestWishers() that found them; of one ROW,
+         * the first place goes without if it can. Without wishers it is the first of ORDERS.
+         */
+        void findRow(int least) {
+            findHopeful(least);
             int used = 0;
             for (int place = 0; place < size; place++) {
                 for (int man = 0; man < MOST_MEN; man++) {
-                    if (!isLeft(man, used)) {
-                        continue;
-                    }
                     row[place] = man;
-                    if (findHires(place + 1, least)) {
+                    if (isLeft(man, used) && findHires(place + 1, least)) {
                         used |= 1 << man;
                         break;
                     }
@@ -1880,32 +1888,34 @@ public final class WishBridges {
         /** Looks ahead of whom of the first ones of row to hire, so that the fewest are enough in the end. */
         private boolean findHires(int fixed, int least) {
             for (int choice = 0; choice < 1 << fixed; choice++) {
-                if (leadsOn(fixed, choice, least)) {
+                if (Integer.bitCount(choice) <= least && leadsOn(fixed, choice)) {
                     return true;
                 }
             }
             return false;
         }
 
-        private boolean leadsOn(int fixed, int choice, int least) {
+        private boolean leadsOn(int fixed, int choice) {
             int crossed = 0;
             int hires = 0;
             int spot = spotOf(startLast, 0);
             hiredAhead = 0;
             for (int place = 0; place < fixed; place++) {
                 int man = row[place];
+                // The first place is the highest bit.
                 if ((choice >> fixed - 1 - place & 1) == 1) {
-                    spot = spotOf(homeOf(man), spot % 2);
+                    spot = spotPaid(crossed, spot, hires, man);
                     hiredAhead |= 1 << place;
                     hires++;
+                } else {
+                    spot = spotFree(crossed, spot, hires, man);
                 }
-                spot = spotAfter(crossed, spot, man, place + hires);
                 if (spot < 0) {
                     return false;
                 }
                 crossed |= 1 << man;
             }
-            return hires + fewestAt(crossed, spot, hires) == least;
+            return (hopeful[crossed * HIRES + hires] >> spot & 1) == 1;
         }
 
         /** RINGS: 0 PARTS, 1 EVEN ones, 2 NEEDS. */

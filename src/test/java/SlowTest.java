@@ -5,16 +5,38 @@ public final class SlowTest {
     private static final Check CHECK = new Check();
 
     public static void main(String[] args) {
-        int runs = Integer.getInteger("runs", 1500);
+        int runs = Integer.getInteger("runs", 2500);
         int from = Integer.getInteger("from", 0);
         for (int seed = from; seed < from + runs && CHECK.isClean(); seed++) {
             run(seed);
+        }
+        for (int seed = from; seed < from + 3 * runs && CHECK.isClean(); seed++) {
+            rowRun(seed);
         }
         int texts = Integer.getInteger("texts", 40000);
         for (int seed = from; seed < from + texts && CHECK.isClean(); seed++) {
             readAmiss(seed);
         }
         CHECK.end("SlowTest");
+    }
+
+    /** All that is asked of ROWS, of sets of those who stand together from the start on. */
+    private static void rowRun(int seed) {
+        Random r = new Random(-1 - seed);
+        TextMaker maker = new TextMaker(r);
+        WishBridges x = new WishBridges();
+        SlowBridges y = new SlowBridges();
+        String text = maker.join(maker.sound());
+        String who = "row run " + seed;
+        feedBoth(x, y, text, who);
+        CHECK.due(who + " read() of " + text, x.read(), y.read());
+        CHECK.due(who + " hours", x.hours(seed % 30), y.hours(seed % 30));
+        for (int b = 0; b < x.count(2); b++) {
+            int set = someSet(r, x, b);
+            for (int kind = 30; set > 0 && kind < 40; kind++) {
+                rowAnswers(kind, r, x, y, who + " of " + text, b, set);
+            }
+        }
     }
 
     private static void readAmiss(int seed) {
@@ -69,7 +91,7 @@ public final class SlowTest {
         int at = x.bank(x.bridge(bridge, 0));
         int men = at < 0 ? 7 : at;
         // Sets of seven are dear for the slow one.
-        int set = men & (r.nextInt(4) == 0 ? 127 : r.nextInt(128));
+        int set = men & (r.nextInt(4) == 0 ? 127 : 1 + r.nextInt(127));
         while (Integer.bitCount(set) > 5) {
             set &= ~(1 << r.nextInt(7));
         }
@@ -180,9 +202,17 @@ public final class SlowTest {
 
     private static void rows(int kind, Random r, WishBridges x, SlowBridges y, String who, int[] a) {
         int b = a[2];
-        int set = someSet(r, x, b);
+        // One more look for a BRIDGE with somebody at its FOOT.
+        for (int i = 0; i < 4 && x.bank(x.bridge(b, 0)) == 0; i++) {
+            b = r.nextInt(4);
+        }
+        rowAnswers(kind, r, x, y, who, b, someSet(r, x, b));
+    }
+
+    private static void rowAnswers(int kind, Random r, WishBridges x, SlowBridges y, String who, int b, int set) {
         String at = " " + b + " " + set + " ";
         int i = some(r, 6);
+        int man = some(r, 7);
         int late = r.nextInt(10) == 0 ? r.nextInt(128) : set & r.nextInt(128);
         int price = some(r, 4);
         switch (kind) {
@@ -196,7 +226,7 @@ public final class SlowTest {
                 }
                 break;
             case 35:
-                CHECK.due(who + " gain" + at + late, x.gain(b, set, late, a[0]), y.gain(b, set, late, a[0]));
+                CHECK.due(who + " gain" + at + late, x.gain(b, set, late, man), y.gain(b, set, late, man));
                 break;
             case 36: CHECK.due(who + " worth" + at + late, x.worth(b, set, late), y.worth(b, set, late)); break;
             case 37:
@@ -226,7 +256,7 @@ public final class SlowTest {
                 default:
             }
         }
-        if (Math.pow(Math.max(1, x.count(0)), x.count(3) + 1) > 5000) {
+        if (Math.pow(Math.max(1, x.count(0)), x.count(3) + 1) > 2500) {
             return;
         }
         for (int j = -1; j <= x.count(9) + 1; j++) {

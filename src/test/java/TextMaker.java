@@ -124,6 +124,8 @@ final class TextMaker {
                 law();
             } else if (s.equals("goes") && pick(2) == 0) {
                 put("goes = 1 ;");
+            } else if (s.equals("fancy")) {
+                put("fancy = 3 - ( last - who - " + pick(4) + " ) * ( last - who ) ;");
             }
         }
         if (pick(3) == 0) {
@@ -143,6 +145,9 @@ final class TextMaker {
     /** Something left out, put in, changed, doubled, or cut off. */
     List<String> amiss() {
         List<String> list = new ArrayList<>(sound());
+        if (pick(2) == 0) {
+            return likeForLike(list);
+        }
         int changes = 1 + pick(3);
         for (int i = 0; i < changes && !list.isEmpty(); i++) {
             int at = pick(list.size());
@@ -153,6 +158,20 @@ final class TextMaker {
                 case 3: list.set(at, list.get(pick(list.size()))); break;
                 case 4: list.addAll(list.subList(0, at)); break;
                 default: list = new ArrayList<>(list.subList(0, at));
+            }
+        }
+        return list;
+    }
+
+    /** NAMES and INTS changed for others: FAULTS 3 to 5. */
+    private List<String> likeForLike(List<String> list) {
+        for (int i = 0; i < list.size(); i++) {
+            char c = list.get(i).charAt(0);
+            boolean name = list.get(i).length() == 2 && "amx".indexOf(c) >= 0;
+            if (name && pick(40) == 0) {
+                list.set(i, "" + "aamx".charAt(pick(4)) + (char) ('a' + pick(6)));
+            } else if (Character.isDigit(c) && pick(30) == 0) {
+                list.set(i, "" + pick(pick(2) == 0 ? 12 : 1200));
             }
         }
         return list;
