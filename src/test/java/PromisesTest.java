@@ -431,7 +431,11 @@ public final class PromisesTest {
         // LAST is his HOME, but he could not cross for want of coins.
         WishBridges p = Check.told("bank a;bank b;bridge x a b;man k a b 4;toll x=5;");
         due("too dear", p.waiting(0, 0), -2);
-        // The hour of the day makes it cheap, 100 hours from now at the latest.
+        // The other one goes in the 100th hour, in the 101st one.
+        String late = "bank a;bank b;bank c;bridge x a a;man k a b 0;man l a c 0;wishes l=1;goes=waited/";
+        due("behind 100 hours", Check.told(late + "99;").waiting(0, 0), 100);
+        due("behind 101 hours", Check.told(late + "100;").waiting(0, 0), -2);
+        // The hour of the day makes it cheap.
         WishBridges h = Check.told("bank a;bank b;bridge x a b;man k a b 4;toll x=27-hour;");
         due("at hour 23", h.waiting(0, 0), 23);
         h.hours(1);
@@ -493,6 +497,11 @@ public final class PromisesTest {
         due("two without LAST", y.orders(0, 3), 2);
         due("one without LAST", y.orders(0, 1), 0);
         due("three without LAST", y.orders(0, 7), 0);
+        // Who wishes nothing must not be the first one; if the other one is the last one, both are ON it.
+        due("both ON it is not HOME", Check.told("bank a;bank b;bridge x a;man k a b 0;man l a b 0;wishes k=0-1;")
+                .orders(0, 3), 1);
+        due("the other one first", Check.told("bank a;bank b;bridge x a;man k a b 0;man l a b 0;wishes k=0-1;")
+                .orderAt(0, 3, 0), 1);
         // Each crossing takes an hour.
         WishBridges h = Check.told("bank a;bank b;bank c;bridge x a b;man k a b 0;man l a b 0;man m a c 0;"
                 + "wishes k=1+hour/5;wishes l=1+hour/5;");
@@ -531,6 +540,16 @@ public final class PromisesTest {
         due("row of three, first", y.wisherAt(0, 7, 0), 0);
         due("row of three, second", y.wisherAt(0, 7, 1), 2);
         due("row of three, third", y.wisherAt(0, 7, 2), 101);
+        WishBridges all = Check.told("bank a;bank b;bridge x a;man g a b 0;man h a b 0;man i a b 0;man j a b 0;man k a b 0;"
+                + "man l a b 0;man m a b 0;wishes g=0;wishes h=0;wishes i=0;wishes j=0;wishes k=0;wishes l=0;wishes m=0;");
+        // The first one comes along with the second one.
+        due("all but one", all.wishers(0, 127), 6);
+        due("the first of seven", all.wisherAt(0, 127, 0), 0);
+        all.hire(0, 0);
+        due("all seven", all.wishers(0, 127), 7);
+        for (int i = 0; i < 7; i++) {
+            due("wisher " + i + " of seven", all.wisherAt(0, 127, i), 100 + i);
+        }
         // He might as well be hired ahead of the first one, who comes HOME without.
         WishBridges h = Check.told("bank a;bank b;bank c;bridge x a b;man k a b 0;man l a c 0;man m a b 0;"
                 + "wishes k=if hour<1 then 0 else 2;wishes l=if hour<2 then 0 else 1;wishes m=0;");
@@ -603,6 +622,9 @@ public final class PromisesTest {
         WishBridges law = Check.told(town + "gain=home*1000-waited+last;");
         due("held to 99", law.gain(0, 7, 1, 1), 99);
         due("who did not come HOME", law.gain(0, 7, 1, 2), -1);
+        WishBridges hour = Check.told(town + "gain=hour+times+purse+here*50;");
+        hour.hours(5);
+        due("as all is now", hour.gain(0, 7, 1, 0), 15);
         WishBridges low = Check.told(town + "gain=0-100-who;");
         due("held to -99", low.worth(0, 7, 0), -297);
         // k likes to be behind, l ahead. k late: l, k; else k, l. From nobody late k goes late, from both l goes early.
@@ -652,6 +674,11 @@ public final class PromisesTest {
         due("not so dear", y.prices(0, 3, 2, -1), -2);
         WishBridges z = Check.told(town + "fancy=if who<1 then last else 2-(last-1)*(last-1);");
         due("each his own", z.prices(0, 7, 0, -1), 0);
+        // k crosses now, l an hour from now, when b is his.
+        WishBridges h = Check.told(town + "fancy=if who<1 then last else if hour<6 then 0-last else 2-(last-1)*(last-1);");
+        due("too early", h.prices(0, 7, 0, -1), -2);
+        h.hours(5);
+        due("the hour of his crossing", h.prices(0, 7, 0, -1), 0);
         // Without LAST the first one comes where the second one comes.
         WishBridges on = Check.told("bank a;bank b;bridge x a;man k a b 0;man l a b 0;man m a a 0;");
         due("both by a price on a", on.prices(0, 3, 3, -1), 1);
