@@ -21,6 +21,8 @@ public final class WishBridges {
     private static final int REACH_HOURS = 99;
     private static final int MOST_SEEDS = 20;
     private static final int MOST_PRICE = 3;
+    // More than any hours, gains and prices can come to.
+    private static final int FAR = 1 << 30;
 
     private final byte[] tape = new byte[MOST_BYTES];
     private int tapeLength;
@@ -1576,7 +1578,6 @@ public final class WishBridges {
         static final int SPOTS = MOST_BANKS * SETS;
         // Hours weigh more than all crossings that any shortest way can have.
         static final int HOUR = 1024;
-        static final int FAR = 1 << 30;
 
         private final int[] costs = new int[SPOTS];
         private final int[] settled = new int[SPOTS];
@@ -2121,7 +2122,7 @@ public final class WishBridges {
         }
 
         int leastRestingWorth() {
-            int least = Integer.MAX_VALUE;
+            int least = FAR;
             for (int late = 0; late <= rows.set; late++) {
                 if (isChoice(late) && isRest(late)) {
                     least = Math.min(least, worthOf(late));
@@ -2156,7 +2157,7 @@ public final class WishBridges {
             }
             askFancies();
             Arrays.fill(tried, 0);
-            leastSum = Integer.MAX_VALUE;
+            leastSum = FAR;
             int choices = 1;
             for (int bank = 0; bank < banks; bank++) {
                 choices *= most + 1;
@@ -2165,7 +2166,7 @@ public final class WishBridges {
                 tryPrices();
                 nextPrices(most);
             }
-            return leastSum != Integer.MAX_VALUE;
+            return leastSum != FAR;
         }
 
         private void lineUp(int set) {
