@@ -1406,13 +1406,13 @@ public final class WishBridges {
             return told.laws.valueOf(told.goes) > 0;
         }
 
-        /** GAIN of one who would come HOME or not, behind so many, as all is now. */
+        /** GAIN of one who would come HOME or not, behind so many in a ROW: each of these takes an HOUR. */
         int gainAs(int man, boolean comesHome, int ahead) {
             int came = comesHome ? 1 : 0;
             if (told.gain < 0) {
                 return 20 * came - ahead;
             }
-            look(man, 0, hour);
+            look(man, 0, hour + ahead);
             told.laws.vars[Laws.HOME] = came;
             told.laws.vars[Laws.WAITED] = ahead;
             return held(told.laws.valueOf(told.gain), -99, 99);

@@ -622,9 +622,25 @@ public final class PromisesTest {
         WishBridges law = Check.told(town + "gain=home*1000-waited+last;");
         due("held to 99", law.gain(0, 7, 1, 1), 99);
         due("who did not come HOME", law.gain(0, 7, 1, 2), -1);
+        // Each crosses an HOUR behind the one ahead of him; times, purse and here are as he sets foot on it.
         WishBridges hour = Check.told(town + "gain=hour+times+purse+here*50;");
         hour.hours(5);
-        due("as all is now", hour.gain(0, 7, 1, 0), 15);
+        due("the first one's hour", hour.gain(0, 7, 0, 0), 5 + 10);
+        due("the second one's hour", hour.gain(0, 7, 0, 1), 6 + 5);
+        due("the last one's hour", hour.gain(0, 7, 1, 0), 7 + 10);
+        due("all hours together", hour.worth(0, 7, 1), 5 + 6 + 7 + 18);
+        hour.hours(18);
+        due("the last hour of the day", hour.gain(0, 7, 1, 1), 23 + 5);
+        due("the first hour of the next day", hour.gain(0, 7, 1, 2), 3);
+        due("the hour behind it", hour.gain(0, 7, 1, 0), 1 + 10);
+        // k likes an odd hour, l any: from nobody late k goes late at an even hour, and not at an odd one.
+        WishBridges odd = Check.told("bank a;bridge x a;man k a a 0;man l a a 0;"
+                + "gain=if who<1 then hour-hour/2*2 else 0;");
+        due("rests at an even hour", odd.rests(0, 3, -1), 3);
+        due("k behind l", odd.rests(0, 3, 0), 1);
+        due("best at an even hour", odd.best(0, 3, false), 1);
+        odd.hours(1);
+        due("k ahead of l", odd.rests(0, 3, 0), 0);
         WishBridges low = Check.told(town + "gain=0-100-who;");
         due("held to -99", low.worth(0, 7, 0), -297);
         // k likes to be behind, l ahead. k late: l, k; else k, l. From nobody late k goes late, from both l goes early.

@@ -1167,7 +1167,9 @@ final class SlowBridges {
         for (int i = 0; i < row.size(); i++) {
             int m = row.get(i);
             int came = home >> m & 1;
-            int[] vars = vars(world, m, 0);
+            World crossing = new World(world);
+            crossing.hour += i;
+            int[] vars = vars(crossing, m, 0);
             vars[4] = came;
             vars[7] = i;
             int v = text.gain == null ? 20 * came - i : value(text.gain, vars);
