@@ -190,6 +190,12 @@ final class AskEdges {
         WishBridges f = Check.told(THREE + "bridge x a c;man k a b 0;man l a c 0;man m a b 0;man n a c 0;wishes l=1;wishes m=2;"
                 + "wishes n=1;");
         s.due("for the first time", f.waiting(0, 0), 1);
+        // k is ON x, l brings him to its FOOT and wishes his HOME: but he is not there now.
+        WishBridges on = Check.told("bank a;bank b;bank c;bridge x a;man k a b 0;man l a c 0;wishes k=0;wishes l=1;goes=1;");
+        on.cross(0, 0);
+        s.due("who is ON it, though he comes to its FOOT", on.waiting(0, 0), -2);
+        on.rule(1);
+        s.due("who has come to its FOOT", on.waiting(0, 0), 0);
         // He is HOME already, at the FOOT.
         s.due("at HOME", Check.told("bank a;bridge x a a;man k a a 0;").waiting(0, 0), 0);
     }
@@ -257,6 +263,10 @@ final class AskEdges {
         way(SIX + "path a b 9;path b c 9;path c d 9;path d e 9;path e f 9;", 5, 45, 0);
         way(SIX + "path a b 9;path b c 9;path c d 9;path d e 9;bridge x e a;", 5, 74, 2);
         way(SIX + "path b a 9;path c b 9;path d c 9;path e d 9;bridge x e d;", 5, 47, 2);
+        // By the first BANK, which is nearer than the last one.
+        WishBridges through = Check.told("bank a;bank b;bank c;bank d;path b a 1;path a c 1;path b c 9;path c d 1;man k b a 0;");
+        s.due("hours by the first BANK", through.way(0, 3, 0), 3);
+        s.due("hours to the first BANK", through.way(0, 0, 0), 1);
     }
 
     private void reach() {
@@ -344,10 +354,21 @@ final class AskEdges {
         WishBridges stay = Check.told(THREE + "bridge x a;man k a b 0;man l a b 0;wishes k=0-1;wishes l=0-1;");
         s.due("who came ON it last stays there", stay.orders(0, 3), 0);
         s.due("there is no first one", stay.orderAt(0, 3, 0), -2);
+        // k, who wishes nothing, comes HOME behind l; l behind k would stay ON it.
+        WishBridges turn = Check.told(THREE + "bridge x a;man k a b 0;man l a b 0;wishes k=0-1;");
+        s.due("who must not be the last one", turn.orders(0, 3), 1);
+        orderIs(turn, 3, 1, 0);
+        wisherRowIs(turn, 3, 0, 1, 0);
+        s.due("nobody comes to the last BANK", Check.told(SIX + "bridge x a a;man k a f 0;man l a f 0;").orders(0, 3), 0);
         // m comes along to b with k, and is not HOME there.
         WishBridges along = Check.told(THREE + "bridge x a;man k a b 0;man m a c 0;wishes m=1;");
         s.due("who comes along elsewhere", along.orders(0, 3), 0);
         s.due("who comes along elsewhere, the first one", along.orderAt(0, 3, 0), -2);
+        // m, the last of seven, comes along to b.
+        WishBridges sixth = Check.told(THREE + "bridge x a;" + SEVEN.replace("l a a", "l a b").replace("m a a", "m a c") + "wishes m=1;"
+                + "wishes l=2;");
+        s.due("the last of seven comes along elsewhere", sixth.orders(0, 96), 0);
+        s.due("the last of seven alone", sixth.orders(0, 64), 0);
         // From the first BANK to the last one and back: e leaves f by LAST 0, l leaves a by LAST 5.
         WishBridges far = Check.told(SIX + "bridge x c a;man k c a 0;man l c f 0;man m c a 0;man n c f 0;wishes k=last+5;"
                 + "wishes l=5-last;wishes m=last+5;wishes n=5-last;");
@@ -406,6 +427,9 @@ final class AskEdges {
         s.due("each once", Check.told(THREE + "bridge x a b;man k a b 0;man l a c 0;wishes k=if hour<1 then 1 else 2;")
                 .wishers(0, 3), 1);
         s.of("the fewest, so that all come HOME;");
+        // l leaves b for k, whoever else comes needs one: k first would need three.
+        wisherRowIs(Check.told("bank a;bank b;bank c;bank d;bridge x a a;man k a b 0;man l a c 0;man m a d 0;wishes k=0;wishes l=1;"
+                + "wishes m=0;"), 7, 2, 101, 0, 102);
         WishBridges z = Check.told(THREE + "bridge x a c;man k a b 0;man l a c 0;");
         wisherRowIs(z, 2, 0, 1);
         wisherRowIs(z, 1, 1, 100);
@@ -454,6 +478,10 @@ final class AskEdges {
         rings("not of the set", FIVE + men + "wishes k=2;wishes l=1;", 1, 1, 0, 1);
         rings("at the first BANK", FIVE + ";man k a a 0;man l a b 0;", 3, 2, 2, 2);
         rings("from the first BANK", FIVE + ";man k a a 0;man l a a 0;wishes k=1;wishes l=2;", 3, 1, 0, 2);
+        rings("at the first and the last BANK", SIX + "bridge x a;man k a a 0;man l a f 0;", 3, 2, 2, 2);
+        rings("to the last BANK", SIX + "bridge x a;man k a e 0;wishes k=5;", 1, 1, 0, 1);
+        rings("from the last BANK", SIX + "bridge x a;man k a f 0;man l a f 0;wishes k=0;wishes l=1;", 3, 1, 0, 2);
+        rings("the last of seven", "bank a;bridge x a;" + SEVEN, 64, 1, 1, 1);
         WishBridges again = Check.told(FIVE + ";man k a a 0;man l a b 0;");
         for (int i = 0; i < 2; i++) {
             s.due("asked again: of k", again.rings(0, 1, 0), 1);
@@ -519,6 +547,9 @@ final class AskEdges {
         s.due("ON it, then HOME with the next one", on.gain(0, 3, 0, 0), 20);
         s.due("ON it", on.gain(0, 1, 0, 0), 0);
         s.due("ON it, then elsewhere", on.gain(0, 5, 1, 2), 0);
+        WishBridges nothing = Check.told(THREE + "bridge x a b;man k a b 0;man l a b 0;wishes k=0-1;");
+        s.due("behind one who wished nothing", nothing.gain(0, 3, 0, 1), 19);
+        s.due("LATE behind one who wished b", nothing.gain(0, 3, 1, 0), 19);
         // l comes HOME ahead of k and leaves c: k, who is LATE, does not, though he was ON y in the ROW asked ahead.
         WishBridges twice = Check.told(THREE + "bridge x a b;bridge y a;man k a b 0;man l a b 0;wishes l=2;");
         s.due("ON y", twice.gain(1, 1, 0, 0), 0);
@@ -637,7 +668,12 @@ final class AskEdges {
         pricesAre(Check.told(none), 3, 3, 1, 0, 0);
         s.due("without LAST, alone", Check.told(none).prices(0, 1, 3, -1), -2);
         s.due("without LAST, not alike", Check.told(none).prices(0, 5, 3, -1), -2);
+        // The last of seven, who does not come HOME by LAST, though the first one would.
+        WishBridges seventh = Check.told("bank a;bank b;bridge x a a;" + SEVEN.replace("m a a", "m a b"));
+        s.due("the last of seven", seventh.prices(0, 64, 3, -1), -2);
+        s.due("the first of seven", seventh.prices(0, 1, 3, -1), 0);
         s.of("the least sum; of alike ones the first by BANK 0's price, then the next one's.");
+        pricesAre(Check.told(SIX + "bridge x a b;man k a b 0;man l a a 0;fancy=last/5;"), 3, 1, 0, 0, 0, 0, 0, 1);
         pricesAre(Check.told(town), 3, 3, 1, 1, 0);
         pricesAre(Check.told(town), 5, 3, 1, 0, 0);
         pricesAre(Check.told(SIX + "bridge x a b;man k a b 0;man l a f 0;fancy=last/5;"), 3, 3, 0, 0, 0, 0, 0, 0);

@@ -60,6 +60,7 @@ final class CallEdges {
         restore();
         count();
         fullTown();
+        lastOnes();
     }
 
     /** Two at a, one at b, one ON y; x leads to c. */
@@ -291,6 +292,11 @@ final class CallEdges {
         x.cross(3, 1);
         s.due("ON a BRIDGE", x.wish(3, 1), -2);
         s.due("ON a BRIDGE, on the other one", x.wish(3, 0), -2);
+        WishBridges on = Check.told(TOWN + "wishes n=here+2;");
+        s.due("what he wishes at its FOOT", on.wish(3, 1), 2);
+        on.cross(3, 1);
+        s.due("ON a BRIDGE, though he would wish something", on.wish(3, 1), -2);
+        s.due("ON a BRIDGE, though he would wish something, on the other one", on.wish(3, 0), -2);
         s.of("NONE: no such ones.");
         noSuch("wish", x, x::wish);
     }
@@ -1245,12 +1251,80 @@ final class CallEdges {
         s.due("fits(1)", x.fits(1), 279936);
         s.due("sure(1, 6)", x.sure(1, 6), -2);
         s.due("trust(1)", x.trust(1), 64);
+        s.due("count(11)", x.count(11), 64);
         s.due("walk(6, 5)", x.walk(6, 5), 9);
         s.yes("undo()", x.undo());
         s.due("pair(5, 6, 3)", x.pair(5, 6, 3), 5);
         s.due("homes()", x.homes(), 96);
         s.due("follow(0, 0): nobody wishes a", Check.told(text.replace(" a f 999", " a a 9") + "wishes m=1;wishes l=1;wishes k=1;"
                 + "wishes j=1;wishes i=1;wishes h=1;").follow(0, 0), -2);
+    }
+
+    /** As many of each sort as can be; only the last MAN and the last BRIDGE do something. */
+    private static final String FULL = "bank a;bank b;bank c;bank d;bank e;bank f;bridge w b;bridge x b;bridge y b;bridge z a;path e a 2;"
+            + "man g b a 9;man h b a 9;man i b a 9;man j b a 9;man k b a 9;man l b a 9;man m e d 50;wishes m=3;toll z=5;";
+
+    private static void lastOneDoes(WishBridges x, int i) {
+        switch (i) {
+            case 0: x.rule(3); break;
+            case 1: x.walk(6, 0); break;
+            case 2: x.rule(2); break;
+            case 3: x.cross(6, 3); break;
+            default: x.hire(3, 5);
+        }
+    }
+
+    private void lastOnes() {
+        s.promise(17, "undo");
+        s.of("The last thing done (cross, pair, hire, walk, hours, rule) is undone: true;");
+        WishBridges x = Check.told(FULL);
+        s.due("where the last MAN is", x.man(6, 0), 4);
+        String[] before = new String[5];
+        for (int i = 0; i < 5; i++) {
+            before[i] = withoutThings(x);
+            lastOneDoes(x, i);
+        }
+        int[] man = {-2, 3, 45, 1, 0, 3};
+        int[] bridge = {0, 5, 64, 1};
+        for (int w = 0; w < 6; w++) {
+            s.due("the last MAN, what " + w, x.man(6, w), man[w]);
+            s.due("the last BRIDGE, what " + w, x.bridge(3, w), w < 4 ? bridge[w] : -1);
+        }
+        for (int i = 4; i >= 0; i--) {
+            s.yes("undo() of " + i, x.undo());
+            s.yes("as it was ahead of " + i, withoutThings(x).equals(before[i]));
+        }
+        s.promise(45, "hold");
+        s.of("All that goes on (not what is SEEN or SAID, nor the tape) is held in a SLOT (0 .. 2): true;");
+        for (int n = 0; n <= 5; n++) {
+            WishBridges y = Check.told(FULL);
+            for (int i = 0; i < n; i++) {
+                lastOneDoes(y, i);
+            }
+            y.hold(2);
+            String at = withoutThings(y);
+            for (int i = n; i < 5; i++) {
+                lastOneDoes(y, i);
+            }
+            y.rule(1);
+            y.restore(2);
+            s.yes("as it was held ahead of " + n, withoutThings(y).equals(at));
+        }
+        s.promise(19, "where");
+        s.of("BEHIND n HOURS: the BANK where a MAN is (-2: ON a BRIDGE);");
+        String men = "man g b b 0;man h b b 0;man i b b 0;man j b b 0;man k b b 0;man l b b 0;man m a b 1;";
+        WishBridges w = Check.told("bank a;bank b;bridge z a b;" + men + "toll z=4-waited;");
+        s.due("the last MAN behind 3", w.where(6, 3), 0);
+        s.due("behind 4", w.where(6, 4), 1);
+        w.rule(2);
+        s.due("behind 1, as he has waited 2", w.where(6, 1), 0);
+        s.due("behind 2, as he has waited 2", w.where(6, 2), 1);
+        WishBridges t = Check.told(THREE + "bridge z a c;path a c 1;" + men + "wishes m=1;goes=times;");
+        s.due("never, as he has not crossed", t.where(6, 9), 0);
+        t.cross(6, 0);
+        t.walk(6, 0);
+        t.hire(0, 2);
+        s.due("at once, as he has", t.where(6, 1), 2);
     }
 
     /** All seven are HOME by the last BRIDGE, in any order; each GAINS more the earlier he is. */

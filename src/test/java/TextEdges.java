@@ -101,6 +101,7 @@ final class TextEdges {
         s.text("bank zzzzzzzz;bank zzzzzzzy;bank yzzzzzzz;", 0);
         s.text("bank zzzzzzzz;bank #zzzzzzzz;", 3);
         s.text("bank a;bank aa;", 0);
+        s.text("bank b;bank a;bank ba;bank ab;bank aba;bank bab;", 0);
     }
 
     private void ints() {
@@ -118,6 +119,14 @@ final class TextEdges {
         s.due("0042 is 42", lawValue("0042"), 42);
         s.due("0123456789 digit by digit", lawValue("0123-0100+0045-0040+0006+0007+0008+0009"), 58);
         s.due("9999", lawValue("9999/101"), 99);
+        // What went off the tape is of no TOKEN.
+        for (String text : new String[] {"seed 12345", "seed 1234;", "bank abcdefghi", "bank abcdefgh;", many(" ", 1990) + "seed 12345"}) {
+            WishBridges x = new WishBridges();
+            Check.feed(x, text);
+            x.back(1);
+            s.due("read() of a byte less than " + text.trim(), x.read(), 1);
+            s.due("place() by a byte less than " + text.trim(), x.place(), text.length() - 1);
+        }
     }
 
     /** TOLL of a BRIDGE by a LAW. */
@@ -336,6 +345,13 @@ final class TextEdges {
         s.due("GAIN of l", x.gain(0, 3, 0, 1), -1);
         // k leaves c only if a and b, ahead of it, have a price.
         s.due("FANCY", x.prices(0, 3, 1, -1), 2);
+        // What is not told does not go by another LAW.
+        WishBridges o = Check.told(town + "wishes k=last+12;");
+        s.due("WISH of l", o.wish(1, 0), 2);
+        s.due("TOLL", o.toll(0, 0), 0);
+        s.due("who goes", o.where(1, 300), 0);
+        s.due("GAIN", o.gain(0, 3, 0, 1), -1);
+        s.due("FANCY", o.prices(0, 3, 1, -1), 2);
         s.of("LAWS, the last one told.");
         WishBridges y = Check.told(town + "wishes k=0;wishes l=0;wishes k=2;toll x=1;toll x=7;goes=0;goes=1;gain=1;gain=13;"
                 + "fancy=0;fancy=last;");
@@ -633,6 +649,12 @@ final class TextEdges {
             Check.read(z, "bank a;bridge x a;man m a a 0;toll x=1+2*3-(4-5);");
             s.due("TOLL behind " + broken, z.toll(0, 0), 8);
         }
+        WishBridges often = new WishBridges();
+        for (int i = 0; i < 40; i++) {
+            s.due("read() " + i, Check.read(often, "goes=(1+2*(3"), 1);
+        }
+        Check.read(often, "bank a;bridge x a;man m a a 0;toll x=1+2*3-(4-5);");
+        s.due("TOLL behind forty of them", often.toll(0, 0), 8);
     }
 
     private void whatATextLeaves() {
@@ -688,5 +710,18 @@ final class TextEdges {
         s.due("DAWN", z.count(12), -2);
         z.hire(0, 0);
         s.due("HIRE", z.count(5), 5);
+        // FANCY was the first LAW of the one ahead; the first of this one tells no FANCY.
+        String town = "bank a;bank b;bank c;bridge x a b;man k a b 9;man l a c 9;";
+        WishBridges v = new WishBridges();
+        for (int i = 0; i < 4; i++) {
+            Check.read(v, town + (i < 2 ? "fancy=last;" : "wishes k=last;"));
+            s.due("sum of PRICES behind " + i, v.prices(0, 3, 1, -1), i < 2 ? 0 : 2);
+        }
+        // A LAW that fills its text, as often as you like.
+        WishBridges u = new WishBridges();
+        for (int i = 0; i < 5; i++) {
+            s.due("read() " + i, Check.read(u, "bank a;bridge x a;man m a a 0;toll x=50" + many("+1-1", 95) + "+" + i + ";"), 0);
+            s.due("TOLL " + i, u.toll(0, 0), 50 + i);
+        }
     }
 }
